@@ -38,6 +38,7 @@ public final class ConstantTest {
         probe.constantFaultDue("", 2, 0);
         probe.constantFaultDue("  ", 2, 2);
         probe.constantFaultDue("c", 2, 1);
+        probe.constantFaultDue(": bool", 2, 0);
         probe.constantFaultDue("c :", 2, 3);
         probe.constantFaultDue("c bool", 2, 2);
         probe.constantFaultDue("c := bool", 2, 2);
@@ -101,6 +102,10 @@ public final class ConstantTest {
         probe.constantFaultDue("d : list 'a 'b", 3, 0);
         probe.constantFaultDue("d : num -> (bool -> what)", 3, 0);
         probe.constantDue("d : list (list 'a)", 14);
+        probe.constantDue("e : list bool", 15);
+        probe.constantDue("f : list ind -> list num", 16);
+        probe.constantFaultDue("g : list list", 3, 0);
+        probe.constantFaultDue("g : list what", 3, 0);
     }
 
     private static void roomForOneHundred() {

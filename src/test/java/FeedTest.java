@@ -6,6 +6,7 @@ public final class FeedTest {
         fullAt8000();
         bytesGoWithEachText();
         refusedCallsKeepTheBytes();
+        bytesBehindTheTextDoNotCount();
         Probe.end();
     }
 
@@ -70,6 +71,27 @@ public final class FeedTest {
         Probe.due("term(1) behind a type", probe.term(1), Probe.REFUSED);
         probe.type("(");
         Probe.due("term(1) behind a fault", probe.term(1), Probe.REFUSED);
+    }
+
+    private static void bytesBehindTheTextDoNotCount() {
+        Probe probe = new Probe();
+        startDue(probe, "49", 1, 9, 0, -1);
+        startDue(probe, "Tx", 1, 1, 0, -1);
+        startDue(probe, "T/\\T", 2, -1, 1, 1);
+        startDue(probe, "T\\/T", 2, -1, 2, 1);
+        startDue(probe, "T==>T", 2, -1, 2, 2);
+        startDue(probe, "T 'a", 3, -1, 1, 2);
+        startDue(probe, "T /\\ T", 4, -1, 2, 4);
+        startDue(probe, "(T)", 2, -1, 2, 2);
+        startDue(probe, "(".repeat(41) + "~)", 42, -1, 8, 41);
+    }
+
+    private static void startDue(Probe probe, String text, int n, int answer, int fault, int place) {
+        probe.feed(text);
+        String what = " of the first " + n + " of <" + text + ">";
+        Probe.due("term" + what, probe.term(n), answer);
+        Probe.due("fault" + what, probe.reader.fault(), fault);
+        Probe.due("place" + what, probe.reader.place(), place);
     }
 
     private static void refusedCallsKeepTheBytes() {

@@ -115,6 +115,8 @@ public final class PlaceTest {
         probe.termFaultDue("(T : bool (" + left + "'a" + right + "))", 8, 50);
         probe.termDue("\\(x : " + left + "bool" + right + "). x", 2);
         probe.termFaultDue("\\(x : (" + left + "bool" + right + ")). x", 8, 46);
+        probe.termDue("\\y (x : " + left + "bool" + right + "). x", 3);
+        probe.termFaultDue("\\y (x : (" + left + "bool" + right + ")). x", 8, 48);
         probe.constantDue("c : (" + left + "bool" + right + ")", 12);
         probe.constantFaultDue("d : ((" + left + "bool" + right + "))", 8, 45);
     }

@@ -9,6 +9,7 @@ public final class TermTest {
         sizesOfTypes();
         typesThatDoNotAgree();
         typesThatShareTheirParts();
+        muchIsForgotten();
         theTermBeforeStays();
         Probe.end();
     }
@@ -55,6 +56,8 @@ public final class TermTest {
             probe.termFaultDue("0 = 1 " + second + " 2", 2, 6);
             probe.termFaultDue("0 < 1 " + second + " 2", 2, 6);
             probe.termFaultDue("0 <= 1 + 2 " + second + " 2", 2, 11);
+            probe.termFaultDue("\\x. 0 = 1 " + second + " 2", 2, 10);
+            probe.termFaultDue("(~ @x. 0 = 1 " + second + " 2)", 2, 13);
         }
     }
 
@@ -76,6 +79,7 @@ public final class TermTest {
         probe.termDue("\\x' x'' _ _1a. x'' _", 7);
         probe.termDue("\\T. T", 2);
         probe.termDue("\\byx. byx", 2);
+        probe.termDue("\\bx xy ix xn b y i n. T", 9);
         probe.termDue("\\x.(\\/)x x", 6);
         probe.termDue("(\\ x . x)", 2);
         probe.termDue("SUC(SUC 0)", 5);
@@ -148,6 +152,16 @@ public final class TermTest {
         probe.termFaultDue("(any : what -> " + high + ")", 8, 0);
         probe.termFaultDue("(any : bool" + " bool".repeat(40) + ")", 8, 0);
         probe.termFaultDue("(any : bool" + " bool".repeat(39) + ")", 3, 0);
+        probe.termFaultDue("(nope : bool -> " + high + ") (any : bool)", 8, 0);
+        probe.termFaultDue("(any : what (bool" + "->bool".repeat(10) + "))", 3, 0);
+        probe.termFaultDue("(any : what (bool" + "->bool".repeat(11) + "))", 8, 0);
+        probe.termFaultDue("(any : " + "bool->".repeat(11) + "what)", 3, 0);
+        probe.termFaultDue("(any : " + "bool->".repeat(11) + "what 'a)", 8, 0);
+        // Only any itself has a type that is too large, and its parts are found behind the whole.
+        probe.termDue("(any (any : " + ten + ") : " + ten + ")", 3);
+        probe.termFaultDue("(any (any : " + ten + ") : bool -> " + ten + ")", 8, 0);
+        probe.termFaultDue("(any T : " + high + ")", 8, 0);
+        probe.termFaultDue("(\\x. any x) (any : " + high + ")", 8, 0);
         probe.termFaultDue("\\(x : " + forty + "). T", 8, 0);
         probe.termFaultDue("\\(x : " + forty + "). nope", 4, 0);
         probe.termFaultDue("\\(x : " + forty + "). T T", 3, 0);
@@ -161,7 +175,8 @@ public final class TermTest {
         String[] texts = {"T T", "\\x. x x", "0 = T", "!x. 0", "?x. SUC", "@x. 0", "(T : num)", "(T : 'a)",
             "\\(x : 'a) (y : 'b). x = y", "0 <=> 0", "(<=>) 0", "~ 0", "SUC T", "T /\\ 0", "\\x. x = \\y. x",
             "(T : what)", "(T : bool bool)", "(T : list)", "(T : list 'a 'b)", "\\(x : list list). x",
-            "\\(x : what). T", "\\f. f (f 0) /\\ f T", "(\\x. x) T 0", "\\(x : ->). x"};
+            "\\(x : what). T", "\\f. f (f 0) /\\ f T",
+            "\\x y. x y /\\ y x", "\\x y. x T = y /\\ y T = x", "(\\x. x) T 0", "\\(x : ->). x"};
         for (int i = 0; i < texts.length - 1; i++) {
             probe.termFaultDue(texts[i], 3, 0);
         }
@@ -190,6 +205,20 @@ public final class TermTest {
         }
         probe.termFaultDue(nested.toString(), 8, 0);
         probe.termFaultDue("(" + nested + " : bool)", 3, 0);
+    }
+
+    /** Large constants, so many that not even their types are all kept, leave nothing behind. */
+    private static void muchIsForgotten() {
+        Probe probe = new Probe();
+        probe.typeDue("list 'a", 4);
+        String ten = "(bool" + "->bool".repeat(9) + ")";
+        probe.constantDue("c : list (" + ten + "->" + ten + ")", 12);
+        probe.termFaultDue("c" + "==>c".repeat(1500), 8, 0);
+        probe.constantDue("d : bool", 13);
+        probe.termFaultDue("c" + "==>c".repeat(1500), 8, 0);
+        probe.termDue("d", 1);
+        probe.termDue("\\x. x", 2);
+        probe.termFaultDue(" x", 4, 1);
     }
 
     private static void theTermBeforeStays() {

@@ -5,6 +5,7 @@ public final class TypeSymbolTest {
         typesThatAreLeft();
         typeNames();
         typeNamesOfTextsWithFaults();
+        asManyTypeNamesAsFit();
         noSuchSymbol();
         Probe.end();
     }
@@ -85,6 +86,27 @@ public final class TypeSymbolTest {
         probe.term(0);
         probe.termDue("T # 'q", 1);
         probe.wholeTypeDue("\\(x : 'r). x", "2 -1015 -1015");
+    }
+
+    /** Texts of two letters a name, as many as can be fed and read in 512 calls. */
+    private static void asManyTypeNamesAsFit() {
+        Probe probe = new Probe();
+        String first = "abcdefghijklmnopqrstuvwxyzABCDEFGHIJKLMNOPQRSTUVWXYZ_";
+        String second = first + "0123456789'";
+        StringBuilder text = new StringBuilder("c : f");
+        int names = 0;
+        String last = "";
+        for (int texts = 0; texts < 2; texts++) {
+            for (int limit = texts == 0 ? 7990 : 2090; text.length() < limit; names++) {
+                last = "'" + first.charAt(names / second.length()) + second.charAt(names % second.length());
+                text.append(' ').append(last);
+            }
+            probe.constantFaultDue(text.toString(), 8, 0);
+            text = new StringBuilder("c : f");
+        }
+        String due = Integer.toString(-1000 - (names - 1));
+        probe.wholeTypeDue("\\(x:" + last + ").x", "2 " + due + " " + due);
+        probe.wholeTypeDue("\\(x:'aa).x", "2 -1000 -1000");
     }
 
     private static void noSuchSymbol() {
