@@ -1,13 +1,36 @@
 import java.nio.charset.StandardCharsets;
+import java.util.function.Consumer;
 
 /** One reader under test, fed with whole texts, and the count of answers that were not due. */
 final class Probe {
+    /** A call threw the very exception that the document names. */
     static final int REFUSED = Integer.MIN_VALUE;
+    /** It threw a kind of that exception, as the machine itself does. */
+    static final int REFUSED_BY_MACHINE = Integer.MIN_VALUE + 1;
+
+    private static final int MAX_CALLS = 512;
 
     private static int wrong;
     private static int checked;
+    private static String sentence = "";
+    private static int checkedBeforeSentence;
 
     final TypedTermReader reader = new TypedTermReader();
+    private int calls;
+
+    /** All answers from here on are due to this sentence of the document, on which the promise rests. */
+    static void sentence(int promise, String words) {
+        endSentence();
+        sentence = "promise " + promise + " \"" + words + "\": ";
+        checkedBeforeSentence = checked;
+    }
+
+    private static void endSentence() {
+        if (!sentence.isEmpty() && checked == checkedBeforeSentence) {
+            wrong++;
+            System.out.println(sentence + "no answer was looked at");
+        }
+    }
 
     static void due(String what, long got, long want) {
         due(what, Long.toString(got), Long.toString(want));
@@ -17,15 +40,24 @@ final class Probe {
         checked++;
         if (!got.equals(want)) {
             wrong++;
-            System.out.println(what + " answered " + got + ", due is " + want);
+            System.out.println(sentence + what + " answered " + got + ", due is " + want);
         }
     }
 
     /** Ends the test: with exit code 1 if an answer was not the one that is due. */
     static void end() {
+        endSentence();
         System.out.println(checked + " answers, " + wrong + " not as due");
         if (wrong != 0 || checked == 0) {
             System.exit(1);
+        }
+    }
+
+    /** Beyond its 512th call an object's answers are free, so no sentence can be tested there. */
+    private void count() {
+        calls++;
+        if (calls == MAX_CALLS + 1 && !sentence.isEmpty()) {
+            due("the test's own count of calls", calls, MAX_CALLS);
         }
     }
 
@@ -34,6 +66,7 @@ final class Probe {
         byte[] bytes = text.getBytes(StandardCharsets.ISO_8859_1);
         boolean taken = true;
         for (int i = 0; i < bytes.length; i += 20) {
+            count();
             taken = reader.feed(four(bytes, i), four(bytes, i + 4), four(bytes, i + 8),
                     four(bytes, i + 12), four(bytes, i + 16));
         }
@@ -49,43 +82,62 @@ final class Probe {
     }
 
     int term(int n) {
+        count();
         try {
             return reader.term(n);
         } catch (IllegalArgumentException e) {
-            return REFUSED;
+            return refusal(e, IllegalArgumentException.class);
         }
     }
 
     int constant(int n) {
+        count();
         try {
             return reader.constant(n);
         } catch (IllegalArgumentException e) {
-            return REFUSED;
+            return refusal(e, IllegalArgumentException.class);
         }
     }
 
     int type(int n) {
+        count();
         try {
             return reader.type(n);
         } catch (IllegalArgumentException e) {
-            return REFUSED;
+            return refusal(e, IllegalArgumentException.class);
         }
     }
 
     int symbol(int i) {
+        count();
         try {
             return reader.symbol(i);
         } catch (IndexOutOfBoundsException e) {
-            return REFUSED;
+            return refusal(e, IndexOutOfBoundsException.class);
         }
     }
 
     int typeSymbol(int i, int k) {
+        count();
         try {
             return reader.typeSymbol(i, k);
         } catch (IndexOutOfBoundsException e) {
-            return REFUSED;
+            return refusal(e, IndexOutOfBoundsException.class);
         }
+    }
+
+    private static int refusal(RuntimeException thrown, Class<?> named) {
+        return thrown.getClass() == named ? REFUSED : REFUSED_BY_MACHINE;
+    }
+
+    int fault() {
+        count();
+        return reader.fault();
+    }
+
+    int place() {
+        count();
+        return reader.place();
     }
 
     int term(String text) {
@@ -120,8 +172,8 @@ final class Probe {
     }
 
     private void noFaultDue(String text) {
-        due("fault of " + brief(text), reader.fault(), 0);
-        due("place of " + brief(text), reader.place(), -1);
+        due("fault of " + brief(text), fault(), 0);
+        due("place of " + brief(text), place(), -1);
     }
 
     /** The text is no term, for this fault at this place. */
@@ -141,15 +193,17 @@ final class Probe {
     }
 
     private void faultDue(String text, int fault, int place) {
-        due("fault of " + brief(text), reader.fault(), fault);
-        due("place of " + brief(text), reader.place(), place);
+        due("fault of " + brief(text), fault(), fault);
+        due("place of " + brief(text), place(), place);
     }
 
     /** The latest term's symbols, with blanks between. */
     String symbols() {
         StringBuilder row = new StringBuilder();
-        for (int i = 0; symbol(i) != REFUSED; i++) {
-            row.append(i == 0 ? "" : " ").append(symbol(i));
+        int symbol = symbol(0);
+        for (int i = 1; symbol > REFUSED_BY_MACHINE; i++) {
+            row.append(i == 1 ? "" : " ").append(symbol);
+            symbol = symbol(i);
         }
         return row.toString();
     }
@@ -157,23 +211,57 @@ final class Probe {
     /** The symbols of the type of symbol i of the latest term. */
     String typeOf(int i) {
         StringBuilder row = new StringBuilder();
-        for (int k = 0; typeSymbol(i, k) != REFUSED; k++) {
-            row.append(k == 0 ? "" : " ").append(typeSymbol(i, k));
+        int symbol = typeSymbol(i, 0);
+        for (int k = 1; symbol > REFUSED_BY_MACHINE; k++) {
+            row.append(k == 1 ? "" : " ").append(symbol);
+            symbol = typeSymbol(i, k);
         }
         return row.toString();
     }
 
     void symbolsDue(String text, String symbols) {
         term(text);
-        due("fault of " + brief(text), reader.fault(), 0);
+        due("fault of " + brief(text), fault(), 0);
         due("symbols of " + brief(text), symbols(), symbols);
     }
 
     /** The whole term's type. */
     void wholeTypeDue(String text, String type) {
         term(text);
-        due("fault of " + brief(text), reader.fault(), 0);
+        due("fault of " + brief(text), fault(), 0);
         due("type of " + brief(text), typeOf(0), type);
+    }
+
+    /** Two readers with the same calls before, one of them with refused ones too, answer alike. */
+    static void allStaysDue(String what, int bytes, Consumer<Probe> before, Consumer<Probe> refused) {
+        Probe one = new Probe();
+        before.accept(one);
+        Probe other = new Probe();
+        before.accept(other);
+        refused.accept(other);
+        due("all that can be seen behind " + what, other.wholeState(bytes), one.wholeState(bytes));
+    }
+
+    /** All that can be seen of the reader, which has so many bytes: they are gone behind it. */
+    private String wholeState(int bytes) {
+        StringBuilder seen = new StringBuilder(latest());
+        seen.append("; so many bytes and no more: ").append(term(bytes + 1)).append(' ').append(term(bytes));
+        seen.append("; ").append(latest());
+        seen.append("; next constant ").append(constant("next_one : 'next"));
+        seen.append("; next type ").append(type("next_one"));
+        term("\\(x : 'next_one). x");
+        seen.append("; next type name ").append(typeOf(0));
+        return seen.toString();
+    }
+
+    private String latest() {
+        String symbols = symbols();
+        StringBuilder seen = new StringBuilder("fault ");
+        seen.append(fault()).append(" at ").append(place()).append("; term ").append(symbols).append(':');
+        for (int i = 0; i < symbols.split(" ").length; i++) {
+            seen.append(' ').append(typeOf(i)).append(',');
+        }
+        return seen.toString();
     }
 
     private static String brief(String text) {
