@@ -136,7 +136,9 @@ public final class TypedTermReader {
         text.open(n);
         pool.clear();
         typeReader.clear();
-        int root = termReader.readWhole();
+        termReader.clear();
+        int root = termReader.read(0);
+        text.expectEnd();
         if (text.isRight()) {
             text.failAsWhole(termReader.faultOf(root));
         }
@@ -196,7 +198,7 @@ public final class TypedTermReader {
             text.failHere(SYNTAX_FAULT);
         }
         text.expect(COLON);
-        int node = typeReader.readWritten(0);
+        int node = typeReader.read(0);
         text.expectEnd();
         if (text.isRight()) {
             text.failAsWhole(faultOfConstant(from, to));
@@ -354,11 +356,6 @@ public final class TypedTermReader {
             return count - 1;
         }
 
-        int findOrAdd(byte[] source, int from, int to) {
-            int found = find(source, from, to);
-            return found >= 0 ? found : add(source, from, to);
-        }
-
         private static int bucketOf(byte[] source, int from, int to) {
             int sum = 0;
             for (int i = from; i < to; i++) {
@@ -430,7 +427,16 @@ public final class TypedTermReader {
                 failHere(LARGE_FAULT);
             } else {
                 tokens++;
-                scan(bytes[start]);
+                int c = bytes[start];
+                if (isLetter(c)) {
+                    scanName();
+                } else if (c == '\'') {
+                    scanTypeName();
+                } else if (isDigit(c)) {
+                    scanNumeral();
+                } else {
+                    scanSign(c);
+                }
             }
         }
 
@@ -475,7 +481,7 @@ public final class TypedTermReader {
         }
 
         private void fail(int newFault, int newPlace) {
-            if (isRight()) {
+            if (fault == NO_FAULT) {
                 fault = newFault;
                 place = newPlace;
                 kind = END;
@@ -490,18 +496,6 @@ public final class TypedTermReader {
                 at++;
             }
             return at;
-        }
-
-        private void scan(int c) {
-            if (isLetter(c)) {
-                scanName();
-            } else if (c == '\'') {
-                scanTypeName();
-            } else if (isDigit(c)) {
-                scanNumeral();
-            } else {
-                scanSign(c);
-            }
         }
 
         private void scanName() {
@@ -531,8 +525,11 @@ public final class TypedTermReader {
             kind = TYPE_NAME;
             if (end - word > MAX_NAME) {
                 failHere(LARGE_FAULT);
-            } else {
-                value = typeNames.findOrAdd(bytes, word, end);
+                return;
+            }
+            value = typeNames.find(bytes, word, end);
+            if (value < 0) {
+                value = typeNames.add(bytes, word, end);
             }
         }
 
@@ -726,9 +723,22 @@ public final class TypedTermReader {
             first[count] = one;
             second[count] = other;
             parents[count] = count;
-            measure(count);
             count++;
             return count - 1;
+        }
+
+        /** A node of a type as it is written, whose size and height can be asked for at once. */
+        int written(int code, int one, int other) {
+            int node = add(code, one, other);
+            measure(node);
+            return node;
+        }
+
+        /** A node for what is written but is no type; of it only the size and the height are known. */
+        int writtenWrong(int size, int height) {
+            int node = unknown();
+            setMeasures(node, size, height);
+            return node;
         }
 
         int sizeOf(int node) {
@@ -743,7 +753,7 @@ public final class TypedTermReader {
             return sizeOf(node) > MAX_TYPE_SYMBOLS || heightOf(node) > MAX_TYPE_HEIGHT;
         }
 
-        void setMeasures(int node, int size, int height) {
+        private void setMeasures(int node, int size, int height) {
             sizes[node] = size;
             heights[node] = height;
         }
@@ -767,19 +777,16 @@ public final class TypedTermReader {
                 waitingCount--;
                 int joined = waiting[waitingCount];
                 int root = find(joined);
-                joinParts(first[joined], first[root]);
-                joinParts(second[joined], second[root]);
-            }
-        }
-
-        private void joinParts(int one, int other) {
-            if (one >= 0 && other >= 0) {
-                join(one, other);
+                join(first[joined], first[root]);
+                join(second[joined], second[root]);
             }
         }
 
         /** Each node is joined to another at most once, so those that wait have room. */
         private void join(int one, int other) {
+            if (one < 0 || other < 0) {
+                return;
+            }
             int a = find(one);
             int b = find(other);
             if (a == b) {
@@ -944,7 +951,10 @@ public final class TypedTermReader {
                 int taken = types.takenBy(code);
                 int one = taken > 0 && count > 0 ? parts[count - 1] : -1;
                 int other = taken > 1 && count > 1 ? parts[count - 2] : -1;
-                int node = code < 0 ? variable(start, i, ends[constant]) : pool.add(code, one, other);
+                int node = code < 0 ? nodeOfVariable(start, i, ends[constant]) : -1;
+                if (node < 0) {
+                    node = pool.add(code < 0 ? UNKNOWN : code, one, other);
+                }
                 nodes[i - start] = node;
                 count = Math.max(count - taken, 0);
                 parts[count] = node;
@@ -953,13 +963,14 @@ public final class TypedTermReader {
             return parts[0];
         }
 
-        private int variable(int start, int at, int end) {
+        /** The node of a type variable that stands again behind this place; -1 if it does not. */
+        private int nodeOfVariable(int start, int at, int end) {
             for (int i = at + 1; i < end; i++) {
                 if (rows[i] == rows[at]) {
                     return nodes[i - start];
                 }
             }
-            return pool.unknown();
+            return -1;
         }
     }
 
@@ -987,14 +998,8 @@ public final class TypedTermReader {
             wrong = false;
         }
 
-        /** Reads a type that is no part of a written one. */
-        int readWritten(int depth) {
-            int node = read(depth);
-            large = large || pool.overfull || pool.isLarge(node);
-            return node;
-        }
-
-        private int read(int depth) {
+        /** Reads a type that lies so deep in others. If a part is too large, so is the whole. */
+        int read(int depth) {
             int base = waitingCount;
             int last = readAtom(depth);
             for (int i = 0; i < MAX_WAITING && text.kind == ARROW; i++) {
@@ -1004,8 +1009,9 @@ public final class TypedTermReader {
             }
             while (waitingCount > base) {
                 waitingCount--;
-                last = pool.function(waiting[waitingCount], last);
+                last = pool.written(FUNCTIONS, waiting[waitingCount], last);
             }
+            large = large || pool.overfull || pool.isLarge(last);
             return last;
         }
 
@@ -1037,29 +1043,27 @@ public final class TypedTermReader {
                 second = taken == 1 ? part : second;
             }
             if (number >= 0 && types.takenBy(number) == taken) {
-                return pool.add(number, first, second);
+                return pool.written(number, first, second);
             }
             wrong = true;
-            int node = pool.unknown();
-            pool.setMeasures(node, size, height + 1);
-            return node;
+            return pool.writtenWrong(size, height + 1);
         }
 
         private int readLoneName() {
             int number = types.names.find(text.bytes, text.start, text.end);
             text.advance();
             if (number >= 0 && types.takenBy(number) == 0) {
-                return pool.add(number, -1, -1);
+                return pool.written(number, -1, -1);
             }
             wrong = true;
-            return pool.unknown();
+            return pool.writtenWrong(1, 1);
         }
 
         private int readPart(int depth) {
             if (text.kind == LEFT) {
                 return readInside(depth);
             }
-            int node = text.kind == TYPE_NAME ? pool.add(FIRST_TYPE_NAME - text.value, -1, -1) : 0;
+            int node = text.kind == TYPE_NAME ? pool.written(FIRST_TYPE_NAME - text.value, -1, -1) : 0;
             text.expect(TYPE_NAME);
             return node;
         }
@@ -1208,14 +1212,11 @@ public final class TypedTermReader {
             tree = new TermTree(pool);
         }
 
-        int readWhole() {
+        void clear() {
             tree.clear();
             scope.count = 0;
             waitingCount = 0;
             unknownName = false;
-            int root = read(0);
-            text.expectEnd();
-            return root;
         }
 
         /** The first fault of a term whose syntax is right. */
@@ -1232,7 +1233,8 @@ public final class TypedTermReader {
             return tree.hasLargeType() ? LARGE_FAULT : NO_FAULT;
         }
 
-        private int read(int depth) {
+        /** Reads a term that lies so deep in others. */
+        int read(int depth) {
             int base = waitingCount;
             int last = readOperand(depth);
             for (int i = 0; i < MAX_TOKENS && strengthOf(text.kind) > 0; i++) {
@@ -1321,7 +1323,7 @@ public final class TypedTermReader {
             int node = read(depth + 1);
             if (text.kind == COLON) {
                 text.advance();
-                int type = typeReader.readWritten(depth + 1);
+                int type = typeReader.read(depth + 1);
                 pool.equate(tree.types[node], type);
             }
             text.expect(RIGHT);
@@ -1344,12 +1346,39 @@ public final class TypedTermReader {
                 return 0;
             }
             int base = scope.count;
-            readVariable(depth + 1);
-            for (int i = 0; i < MAX_TOKENS && (text.kind == NAME || text.kind == LEFT); i++) {
-                readVariable(depth + 1);
+            int body = readBody(depth + 1);
+            return bind(base, constant, body);
+        }
+
+        /** Reads what stands behind a binder: at least one variable, the dot and the term. */
+        private int readBody(int depth) {
+            for (int i = 0; i < MAX_TOKENS && (i == 0 || text.kind == NAME || text.kind == LEFT); i++) {
+                boolean typed = text.kind == LEFT;
+                if (typed) {
+                    text.advance();
+                }
+                int start = text.start;
+                int end = text.end;
+                text.expect(NAME);
+                if (typed) {
+                    text.expect(COLON);
+                    addVariable(start, end, typeReader.read(depth));
+                    text.expect(RIGHT);
+                } else {
+                    addVariable(start, end, tree.overfull ? 0 : pool.unknown());
+                }
             }
             text.expect(DOT);
-            return bind(base, constant, read(depth + 1));
+            return read(depth);
+        }
+
+        private void addVariable(int start, int end, int type) {
+            if (scope.isFull()) {
+                // Each of the variables will be an abstraction, and that is one too many.
+                tree.overfull = true;
+            } else {
+                scope.add(start, end, type);
+            }
         }
 
         /** Binds the variables from the innermost on; \ is no constant and is applied to nothing. */
@@ -1363,30 +1392,6 @@ public final class TypedTermReader {
                 }
             }
             return node;
-        }
-
-        private void readVariable(int depth) {
-            boolean typed = text.kind == LEFT;
-            if (typed) {
-                text.advance();
-            }
-            int start = text.start;
-            int end = text.end;
-            text.expect(NAME);
-            int type = 0;
-            if (typed) {
-                text.expect(COLON);
-                type = typeReader.readWritten(depth);
-                text.expect(RIGHT);
-            } else {
-                type = tree.overfull ? 0 : pool.unknown();
-            }
-            if (scope.isFull()) {
-                // Each of the variables will be an abstraction, and that is one too many.
-                tree.overfull = true;
-            } else {
-                scope.add(start, end, type);
-            }
         }
 
         private int numeral(int n) {

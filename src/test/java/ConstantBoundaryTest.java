@@ -84,6 +84,18 @@ public final class ConstantBoundaryTest {
         probe.constantDue("d:bool", 13);
         probe.symbolsDue("c d", "-1 25 27");
         new Probe().termFaultDue("c", 4, 0);
+        probe.typeDue("one 'a", 4);
+        probe.typeDue("two 'a 'a", 5);
+        typeDue(probe, 14, "'a->'a", "2 -1 -1");
+        typeDue(probe, 15, "'b", "-1");
+        typeDue(probe, 16, "one 'a->num", "2 4 -1 3");
+        typeDue(probe, 17, "two 'b 'b", "5 -1 -1");
+        typeDue(probe, 18, "two(one num)'b->one 'c->'b", "2 5 4 3 -1 2 4 -2 -1");
+    }
+
+    private static void typeDue(Probe probe, int number, String written, String type) {
+        probe.constantDue("e" + number + ":" + written, number);
+        probe.wholeTypeDue("e" + number, type);
     }
 
     private static void nothingBehindAFault() {
@@ -136,6 +148,9 @@ public final class ConstantBoundaryTest {
         probe.constantFaultDue("c:what" + "->bool".repeat(12), 8, 0);
         probe.constantFaultDue("c:" + "bool->".repeat(11) + "what", 3, 0);
         probe.constantFaultDue("c:" + "bool->".repeat(11) + "what num", 8, 0);
+        probe.typeDue("one 'a", 4);
+        probe.constantFaultDue("c:" + "one(".repeat(11) + "what" + ")".repeat(11), 3, 0);
+        probe.constantFaultDue("c:" + "one(".repeat(12) + "what" + ")".repeat(12), 8, 0);
         probe.constantFaultDue("c:bool" + " num".repeat(39), 3, 0);
         probe.constantFaultDue("c:bool" + " num".repeat(40), 8, 0);
         probe.constantFaultDue("c:what(bool" + "->bool".repeat(10) + ")'a", 3, 0);

@@ -126,6 +126,9 @@ public final class FaultBoundaryTest {
         probe.termFaultDue("(nope:bool" + " 'a".repeat(40) + ")", 8, 0);
         probe.termFaultDue("\\(x:one(" + TEN + "->" + TEN + ")).nope", 4, 0);
         probe.termFaultDue("\\(x:one " + TEN + "->one " + TEN + ").nope", 8, 0);
+        // One that is too large is enough, wherever it stands among the others.
+        probe.termFaultDue("((nope:one " + TEN + "->one " + TEN + "):bool)", 8, 0);
+        probe.termFaultDue("((nope:bool):one " + TEN + "->one " + TEN + ")", 8, 0);
     }
 
     private static void symbolsOfAPartsType() {

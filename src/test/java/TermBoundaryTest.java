@@ -3,9 +3,11 @@ public final class TermBoundaryTest {
     public static void main(String[] args) {
         theFirstBytes();
         theTermBeforeStays();
+        nothingElseStays();
         allBytesAreGone();
         refusedCalls();
         allStaysWhenRefused();
+        fromTheWeakest();
         noTwoSideBySide();
         atLeastOneAtom();
         atLeastOneVariable();
@@ -42,6 +44,8 @@ public final class TermBoundaryTest {
         startDue(probe, "T 'a", 3, -1, 1, 2);
         startDue(probe, "T 'a", 4, -1, 2, 2);
         startDue(probe, "(T)", 2, -1, 2, 2);
+        startDue(probe, "(".repeat(41) + "~)", 42, -1, 8, 41);
+        startDue(probe, "(".repeat(41) + "~)", 43, -1, 2, 43);
         startDue(probe, "T # no\n $", 7, 1, 0, -1);
         startDue(probe, "T # no\n $", 9, -1, 1, 8);
     }
@@ -70,6 +74,38 @@ public final class TermBoundaryTest {
             probe.termDue("F", 1);
             Probe.due("symbols of the next term", probe.symbols(), "5");
         }
+    }
+
+    private static void nothingElseStays() {
+        Probe.sentence(3, "-1 if there is a fault (the term before stays).");
+        String[] faults = {"\\a b c.x", "\\x.(\\y.", "T/\\T==>T+)", "(T:bool->bool->)", "(T:what)", "\\x.x x", "\\x y.x=y/\\y x",
+            "(any:(bool->bool)->num->bool)=(any:(bool->bool)->num->num)", "\\f g.f(g T)(g 0)=f(g T)0/\\(g=f)",
+            "any" + "==>any".repeat(300), "(any:bool" + "->bool".repeat(12) + ")", "any" + " any".repeat(60),
+            "\\" + "x ".repeat(600) + ".x", "\\a b c d e f g h i j k l.a b", "(".repeat(41), "~".repeat(50) + "x"};
+        String[] rights = {"x", "\\x.x", "T/\\T", "any=any", "(\\f x.f x)SUC 0", "\\f g x.f(g x)", "any any any",
+            "!x.x=any", "\\f.f T=f F"};
+        for (String right : rights) {
+            Probe fresh = new Probe();
+            fresh.constantDue("any:'a", 12);
+            String due = answersOf(fresh, right);
+            for (String fault : faults) {
+                Probe probe = new Probe();
+                probe.constantDue("any:'a", 12);
+                Probe.due("term <" + fault + ">", probe.term(fault), -1);
+                Probe.due("answers of <" + right + "> behind <" + fault + ">", answersOf(probe, right), due);
+            }
+        }
+    }
+
+    private static String answersOf(Probe probe, String text) {
+        StringBuilder answers = new StringBuilder();
+        int count = probe.term(text);
+        answers.append(count).append(' ').append(probe.fault()).append(' ').append(probe.place());
+        answers.append(": ").append(probe.symbols()).append(':');
+        for (int i = 0; i < count; i++) {
+            answers.append(' ').append(probe.typeOf(i)).append(',');
+        }
+        return answers.toString();
     }
 
     private static void allBytesAreGone() {
@@ -122,6 +158,32 @@ public final class TermBoundaryTest {
         }
     }
 
+    private static void fromTheWeakest() {
+        Probe.sentence(3, "A term is operands with OPERATORS between, from the weakest: <=>, then ==>, then \\/, then /\\ "
+                + "(each of these to the right: a ==> b ==> c is a ==> (b ==> c)), then = < <= "
+                + "(no two of them side by side), then +, then * (both to the left).");
+        String[] operators = {"<=>", "==>", "\\/", "/\\", "=", "<", "<=", "+", "*"};
+        int[] strengths = {1, 2, 3, 4, 5, 5, 5, 6, 7};
+        for (int one = 0; one < operators.length; one++) {
+            Probe probe = new Probe();
+            for (int operator = 5; operator < operators.length; operator++) {
+                probe.constant(operators[operator] + ":bool->bool->bool");
+            }
+            for (int other = 0; other < operators.length; other++) {
+                String first = " " + operators[one] + " ";
+                String second = " " + operators[other] + " ";
+                if (strengths[one] == 5 && strengths[other] == 5) {
+                    probe.termFaultDue("T" + first + "F" + second + "T", 2, 3 + first.length());
+                    continue;
+                }
+                boolean toTheLeft = strengths[one] > strengths[other]
+                        || strengths[one] == strengths[other] && strengths[one] > 5;
+                probe.term(toTheLeft ? "(T" + first + "F)" + second + "T" : "T" + first + "(F" + second + "T)");
+                probe.symbolsDue("T" + first + "F" + second + "T", probe.symbols());
+            }
+        }
+    }
+
     private static void noTwoSideBySide() {
         Probe.sentence(3, "then = < <= (no two of them side by side)");
         Probe probe = new Probe();
@@ -169,6 +231,8 @@ public final class TermBoundaryTest {
         for (int b = 0; b < binders.length; b++) {
             probe.termFaultDue(binders[b] + ".T", 2, 1);
             probe.termFaultDue(binders[b] + "T", 2, 2);
+            probe.termFaultDue(binders[b] + "x->T", 2, 2);
+            probe.termFaultDue(binders[b] + "x:bool.T", 2, 2);
             probe.termFaultDue(binders[b] + "()x.T", 2, 2);
             probe.termFaultDue(binders[b] + "(x).T", 2, 3);
             probe.termFaultDue(binders[b] + "(x y:bool).T", 2, 4);
@@ -279,7 +343,8 @@ public final class TermBoundaryTest {
         probe.constantDue("mk:'a->one 'a", 12);
         String[] none = {"T T", "\\x.x x", "\\x.x=mk x", "\\x y.x=mk y/\\y=mk x", "0=T", "!x.0",
             "(T:num)", "(T:'a)", "\\(x:'a)(y:'b).x=y", "(T:what)", "(T:bools)", "(mk T:one)", "(mk T:one bool bool)",
-            "(T:bool bool)", "\\(x:one one).T", "\\(x:what).T"};
+            "(T:bool bool)", "\\(x:one one).T", "\\(x:what).T", "(\\(x:bool).T)=(\\(x:num).T)",
+            "(\\(x:bool).T)=(\\(x:bool).0)", "mk T=mk 0", "\\(x:bool->num->ind)(y:bool->num->num).x=y"};
         for (String text : none) {
             probe.termFaultDue(text, 3, 0);
         }
@@ -321,5 +386,6 @@ public final class TermBoundaryTest {
         probe.termFaultDue("\\(x:->bool).T", 2, 4);
         probe.termFaultDue("\\(x:bool->).T", 2, 10);
         probe.termFaultDue("\\(x:bool->->bool).T", 2, 10);
+        probe.termFaultDue("\\(x:bool.bool).T", 2, 8);
     }
 }

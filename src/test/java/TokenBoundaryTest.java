@@ -176,9 +176,11 @@ public final class TokenBoundaryTest {
             probe.constantFaultDue(word + ":bool", 2, 0);
             probe.typeFaultDue(word, 2, 0);
             for (String other : new String[] {word + "x", word + "'", word + "1", "_" + word, word + word,
-                word.substring(0, 1), word.substring(1), word.toUpperCase()}) {
+                word.substring(0, 1), word.substring(1), word.toUpperCase(), word.charAt(0) + "x",
+                "x" + word.charAt(1), "" + word.charAt(1) + word.charAt(0)}) {
                 new Probe().termDue("\\" + other + ".T", 2);
             }
+            new Probe().termDue("\\bn iy.T", 3);
             new Probe().wholeTypeDue("\\(x:'" + word + ").x", "2 -1000 -1000");
         }
     }
