@@ -36,10 +36,8 @@ public final class ConstantBoundaryTest {
     private static void startDue(String text, int n, int answer, int fault, int place) {
         Probe probe = new Probe();
         probe.feed(text);
-        String what = " of the first " + n + " of <" + text + ">";
-        Probe.due("constant" + what, probe.constant(n), answer);
-        Probe.due("fault" + what, probe.fault(), fault);
-        Probe.due("place" + what, probe.place(), place);
+        String what = "constant of the first " + n + " of <" + text + ">";
+        probe.outcomeDue(what, probe.constant(n), answer, fault, place);
         Probe.due("constant(1) when all bytes are gone", probe.constant(1), Probe.REFUSED);
     }
 
@@ -151,6 +149,10 @@ public final class ConstantBoundaryTest {
         probe.typeDue("one 'a", 4);
         probe.constantFaultDue("c:" + "one(".repeat(11) + "what" + ")".repeat(11), 3, 0);
         probe.constantFaultDue("c:" + "one(".repeat(12) + "what" + ")".repeat(12), 8, 0);
+        probe.constantFaultDue("c:" + "one(".repeat(10) + "one what" + ")".repeat(10), 3, 0);
+        probe.constantFaultDue("c:" + "one(".repeat(11) + "one what" + ")".repeat(11), 8, 0);
+        probe.constantFaultDue("c:bool" + " what".repeat(39), 3, 0);
+        probe.constantFaultDue("c:bool" + " what".repeat(40), 8, 0);
         probe.constantFaultDue("c:bool" + " num".repeat(39), 3, 0);
         probe.constantFaultDue("c:bool" + " num".repeat(40), 8, 0);
         probe.constantFaultDue("c:what(bool" + "->bool".repeat(10) + ")'a", 3, 0);

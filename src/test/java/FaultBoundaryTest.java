@@ -12,6 +12,7 @@ public final class FaultBoundaryTest {
         symbolsOfAPartsType();
         heightOfAWrittenType();
         heightOfAPartsType();
+        whatATypesSymbolsAre();
         tokensOfAText();
         depthOfTerms();
         depthOfTypes();
@@ -177,6 +178,21 @@ public final class FaultBoundaryTest {
         probe.termFaultDue("T=(\\x.T)(\\" + "x ".repeat(11) + ".T)", 8, 0);
     }
 
+    private static void whatATypesSymbolsAre() {
+        Probe.sentence(6, "Likewise of a type, also a written one: type variables and names of types "
+                + "(-> is one with two: from, to; ( ) are none).");
+        Probe probe = withTypesOfAllSizes();
+        // Each of these is 4 symbols and 2 higher, whatever ( ) there are.
+        String start = "('a->((num))->".repeat(5);
+        String eleven = start + "('a)" + ")".repeat(5);
+        probe.termDue("(any:" + eleven + ")", 1);
+        probe.termDue("(any:(((one" + eleven + "))))", 1);
+        probe.termFaultDue("(any:one(one" + eleven + "))", 8, 0);
+        probe.wholeTypeDue("(any:((one((('a)->(num))))))", "4 2 -1000 3");
+        probe.termDue("(any:((one((" + TEN + ")->((" + TEN + "))))))", 1);
+        probe.termFaultDue("(any:one" + TEN + "->one" + TEN + ")", 8, 0);
+    }
+
     /** A right term of 5999 tokens: 100 times T in 28 or 29 ( ), 99 times /\, and 10 times ( ) round ten of them. */
     private static String tokens5999() {
         StringBuilder text = new StringBuilder();
@@ -324,6 +340,8 @@ public final class FaultBoundaryTest {
         new Probe().termDue("49", 99);
         new Probe().termFaultDue(" 50", 8, 1);
         new Probe().termFaultDue(" 51", 8, 1);
+        new Probe().termFaultDue("SUC 50", 8, 4);
+        new Probe().termFaultDue("SUC 49", 8, 0);
         new Probe().termFaultDue("SUC 100", 8, 4);
         new Probe().termDue("0".repeat(100) + "49", 99);
         new Probe().termFaultDue("0".repeat(100) + "50", 8, 0);

@@ -88,10 +88,8 @@ public final class FeedTest {
 
     private static void startDue(Probe probe, String text, int n, int answer, int fault, int place) {
         probe.feed(text);
-        String what = " of the first " + n + " of <" + text + ">";
-        Probe.due("term" + what, probe.term(n), answer);
-        Probe.due("fault" + what, probe.reader.fault(), fault);
-        Probe.due("place" + what, probe.reader.place(), place);
+        String what = "term of the first " + n + " of <" + text + ">";
+        probe.outcomeDue(what, probe.term(n), answer, fault, place);
     }
 
     private static void refusedCallsKeepTheBytes() {

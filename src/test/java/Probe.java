@@ -155,6 +155,13 @@ final class Probe {
         return type(text.length());
     }
 
+    /** A call for a text answered what it did, with this fault at this place. */
+    void outcomeDue(String call, int got, int answer, int fault, int place) {
+        due(call, got, answer);
+        due("fault of " + call, fault(), fault);
+        due("place of " + call, place(), place);
+    }
+
     /** The text is a term with so many symbols. */
     void termDue(String text, int symbols) {
         due("term " + brief(text), term(text), symbols);
@@ -255,9 +262,11 @@ final class Probe {
     }
 
     private String latest() {
-        String symbols = symbols();
+        // The faults first: to find the term's end, a call has to be refused.
         StringBuilder seen = new StringBuilder("fault ");
-        seen.append(fault()).append(" at ").append(place()).append("; term ").append(symbols).append(':');
+        seen.append(fault()).append(" at ").append(place());
+        String symbols = symbols();
+        seen.append("; term ").append(symbols).append(':');
         for (int i = 0; i < symbols.split(" ").length; i++) {
             seen.append(' ').append(typeOf(i)).append(',');
         }

@@ -17,6 +17,7 @@ public final class TermBoundaryTest {
         numeralsHeights();
         equalsOnBool();
         innermostVariable();
+        typesOfTerms();
         noTypesThatAgree();
         whatATypeTakes();
         arrowsToTheRight();
@@ -52,10 +53,8 @@ public final class TermBoundaryTest {
 
     private static void startDue(Probe probe, String text, int n, int answer, int fault, int place) {
         probe.feed(text);
-        String what = " of the first " + n + " of <" + text + ">";
-        Probe.due("term" + what, probe.term(n), answer);
-        Probe.due("fault" + what, probe.fault(), fault);
-        Probe.due("place" + what, probe.place(), place);
+        String what = "term of the first " + n + " of <" + text + ">";
+        probe.outcomeDue(what, probe.term(n), answer, fault, place);
     }
 
     private static void theTermBeforeStays() {
@@ -78,8 +77,8 @@ public final class TermBoundaryTest {
 
     private static void nothingElseStays() {
         Probe.sentence(3, "-1 if there is a fault (the term before stays).");
-        String[] faults = {"\\a b c.x", "\\x.(\\y.", "T/\\T==>T+)", "(T:bool->bool->)", "(T:what)", "\\x.x x", "\\x y.x=y/\\y x",
-            "(any:(bool->bool)->num->bool)=(any:(bool->bool)->num->num)", "\\f g.f(g T)(g 0)=f(g T)0/\\(g=f)",
+        String[] faults = {"\\a b c.x", "\\x.(\\y.", "T/\\T==>T+)", "(T:bool->bool->)", "(T:what)", "\\x.x x",
+            "\\x y.x=y/\\y x", "(any:(bool->bool)->num->bool)=(any:(bool->bool)->num->num)", "\\f g.f(g T)(g 0)=f(g T)0/\\(g=f)",
             "any" + "==>any".repeat(300), "(any:bool" + "->bool".repeat(12) + ")", "any" + " any".repeat(60),
             "\\" + "x ".repeat(600) + ".x", "\\a b c d e f g h i j k l.a b", "(".repeat(41), "~".repeat(50) + "x"};
         String[] rights = {"x", "\\x.x", "T/\\T", "any=any", "(\\f x.f x)SUC 0", "\\f g x.f(g x)", "any any any",
@@ -334,6 +333,34 @@ public final class TermBoundaryTest {
         probe.symbolsDue("\\x.x=y", "-2 -1 -1 1 0 25");
         probe.symbolsDue("\\y.y=y", "-2 -1 -1 1 0 0");
         probe.symbolsDue("\\x.x+x", "-2 -1 -1 27 0 0");
+    }
+
+    private static void typesOfTerms() {
+        Probe.sentence(3, "TYPES OF TERMS: each use of a constant has its type with new unknown types for its type "
+                + "variables; a binder's variable without a type has an unknown one, the same wherever it stands; "
+                + "a function is of functions from its argument's type, the application of what these are to; "
+                + "( t : type ) has that type; the body of ! ? @ is of bool.");
+        Probe probe = new Probe();
+        probe.constantDue("any:'a", 12);
+        probe.termDue("any T/\\any 0", 9);
+        probe.termFaultDue("\\f.f T/\\f 0", 3, 0);
+        probe.termDue("\\f.f T/\\f F", 10);
+        probe.termFaultDue("(\\x.x)T/\\(\\x.x)0", 3, 0);
+        probe.wholeTypeDue("\\f.f 0", "2 2 3 -1 -1");
+        probe.termFaultDue("\\(f:num->bool).f T", 3, 0);
+        probe.wholeTypeDue("\\(f:num->bool).f", "2 2 3 0 2 3 0");
+        probe.wholeTypeDue("(any:num)", "3");
+        probe.termFaultDue("(0:bool)", 3, 0);
+        probe.termDue("\\x.0", 2);
+        for (String binder : new String[] {"!", "?", "@"}) {
+            probe.termFaultDue(binder + "x.0", 3, 0);
+            probe.termFaultDue(binder + "(x:num).x", 3, 0);
+            probe.termDue(binder + "x.x", 4);
+            probe.termDue(binder + "(x:bool).x", 4);
+            probe.termDue(binder + "(x:num).T", 4);
+        }
+        probe.wholeTypeDue("@(x:num).T", "3");
+        probe.wholeTypeDue("!(x:num).T", "0");
     }
 
     private static void noTypesThatAgree() {

@@ -30,10 +30,8 @@ public final class TypeBoundaryTest {
     private static void startDue(String text, int n, int answer, int fault, int place) {
         Probe probe = new Probe();
         probe.feed(text);
-        String what = " of the first " + n + " of <" + text + ">";
-        Probe.due("type" + what, probe.type(n), answer);
-        Probe.due("fault" + what, probe.fault(), fault);
-        Probe.due("place" + what, probe.place(), place);
+        String what = "type of the first " + n + " of <" + text + ">";
+        probe.outcomeDue(what, probe.type(n), answer, fault, place);
         Probe.due("type(1) when all bytes are gone", probe.type(1), Probe.REFUSED);
     }
 
