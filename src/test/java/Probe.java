@@ -1,4 +1,7 @@
+import java.io.IOException;
 import java.nio.charset.StandardCharsets;
+import java.nio.file.Files;
+import java.nio.file.Path;
 import java.util.function.Consumer;
 
 /** One reader under test, fed with whole texts, and the count of answers that were not due. */
@@ -12,6 +15,7 @@ final class Probe {
 
     private static int wrong;
     private static int checked;
+    private static String document = "";
     private static String sentence = "";
     private static int checkedBeforeSentence;
 
@@ -22,7 +26,20 @@ final class Probe {
     static void sentence(int promise, String words) {
         endSentence();
         sentence = "promise " + promise + " \"" + words + "\": ";
+        due("whether these are words of the document", Boolean.toString(document().contains(words)), "true");
         checkedBeforeSentence = checked;
+    }
+
+    /** The document's text; none if it cannot be read, so that no words are found in it. */
+    private static String document() {
+        if (document.isEmpty()) {
+            try {
+                document = Files.readString(Path.of("../shared/DOC.md"));
+            } catch (IOException e) {
+                System.out.println("../shared/DOC.md cannot be read: " + e.getMessage());
+            }
+        }
+        return document;
     }
 
     private static void endSentence() {
